@@ -1092,12 +1092,17 @@ public final class PatchChains {
             for (int k = 0; k <= width; k++) {
                 common[k] = 0;
             }
-            for (int i = 0; i < x.size(); i++) {
-                int value = x.at(i);
+            // The dearest loop of all: it looks into the rows themselves.
+            for (int i = 0; i < x.size; i++) {
+                int value = x.row[i];
                 int before = 0;
                 for (int k = 1; k <= width; k++) {
                     int above = common[k];
-                    common[k] = y.at(k - 1) == value ? before + 1 : Math.max(above, common[k - 1]);
+                    if (y.row[k - 1] == value) {
+                        common[k] = before + 1;
+                    } else if (common[k - 1] > above) {
+                        common[k] = common[k - 1];
+                    }
                     before = above;
                 }
             }
@@ -1158,8 +1163,8 @@ public final class PatchChains {
             for (int i = 0; i < patch.size(); i++) {
                 goes[i] = true;
             }
-            // Each round takes one STEP away, so the last one finds no more.
-            for (int round = 0; round <= patch.size(); round++) {
+            // Each round takes one STEP away, so there are no more rounds than STEPS.
+            for (int round = 0; round < patch.size(); round++) {
                 int i = firstMisfit(patch, tree);
                 if (i == NOT_FOUND) {
                     break;

@@ -185,6 +185,10 @@ public final class ChainTest {
         check.due("19: what becomes DROP and ADD in q stay both",
             chainOf(tree("b", "0123456789"), tree("a", "0123456789"), tree("b", "one")),
             "DROP b<b [] ['0123456789']; ADD b<b ['one'] []");
+        check.due("19: the DROP first, though it is found last",
+            chainOf(tree("a", "one!", "b", "0123456789"), tree("c", "0123456789x", "x", "one!"),
+                tree("a", "0123456789x")),
+            "DROP a<a [] ['one!']; MOVE+CHANGE a<b [0+10 'x'] [0+10]");
         check.due("19: MOVE away and ADD",
             chainOf(tree("b", "0123456789"), tree("a", "0123456789"), tree("a", "0123456789", "b", "one")),
             "MOVE a<b [0+10] [0+10]; ADD b<b ['one'] []");
