@@ -116,6 +116,46 @@ final class Kit {
         return String.join(" ", conflicts);
     }
 
+    /** Files, steps and counts of the whole object, to tell whether a call has changed any of them. */
+    static String state(PatchChains x) {
+        StringBuilder state = new StringBuilder();
+        for (int what = 0; what <= 7; what++) {
+            state.append(x.count(what)).append(' ');
+        }
+        for (int t = 0; t < x.count(0); t++) {
+            state.append("{").append(files(x, t)).append("} ");
+        }
+        for (int p = 0; p < x.count(1); p++) {
+            state.append("[").append(steps(x, p)).append("] ");
+        }
+        return state.append(conflicts(x)).toString();
+    }
+
+    /** The slots that were ever written, as number:sum, with a * if they are in the list that counts. */
+    static String slots(PatchChains x) {
+        List<String> slots = new ArrayList<>();
+        for (int i = 0; i < 30; i++) {
+            if (x.slot(i, 0) != PatchChains.NONE) {
+                slots.add(i + ":" + x.slot(i, 1) + (x.slot(i, 2) == 1 ? "*" : ""));
+            }
+        }
+        return String.join(" ", slots);
+    }
+
+    /** Numbers that are none of 0 .. n - 1: the nearest ones, and the farthest. */
+    static int[] outside(int n) {
+        return new int[] {-1, n, n + 1, -n - 1, Integer.MIN_VALUE, Integer.MAX_VALUE};
+    }
+
+    /** As many other letters, from the one named on. */
+    static String letters(char first, int n) {
+        StringBuilder text = new StringBuilder();
+        for (int k = 0; k < n; k++) {
+            text.append((char) (first + k));
+        }
+        return text.toString();
+    }
+
     static int sum(String content) {
         int h = 5381;
         for (int k = 0; k < content.length(); k++) {

@@ -2,23 +2,29 @@ import java.util.ArrayList;
 import java.util.List;
 import java.util.Random;
 
-/** Runs of calls by a random source with a fixed seed, on the class and on the model: each answer the same. */
+/**
+ * Runs of calls by a random source with a fixed seed, on the class and on the model: each answer the same.
+ * No object is used for more than 512 calls: when it has had them, a new one is brought to where it was.
+ */
 public final class ModelTest {
-    private static final int RUNS = 1500;
-    private static final int CALLS = 300;
+    private static final int RUNS = 6000;
+    private static final int MOST_CALLS = 512;
+    private static final int MOST_CHANGES = 300;
     private static final String[] PATHS = {"a", "a/b", "a/b/c", "b", "b/c", "c", "d", "e/f", "e/g", "f", "g", "h",
         "i", "j", "ab", "zz/zz/zz", "k", "l"};
     private static final int[] WILD = {-3, -2, -1, 0, 1, 2, 7, 8, 11, 12, 24, 30, 48, 1000, Integer.MIN_VALUE,
         Integer.MAX_VALUE};
 
     private final Check check = new Check();
-    private final List<String> log = new ArrayList<>();
+    private final List<Call> changes = new ArrayList<>();
+    private final int[] seen = new int[40];
     private Random random;
     private PatchChains x;
     private Model m;
     private String[] contents;
+    private int calls = 0;
+    private int thin = 1;
     private int wrong = 0;
-    private final int[] seen = new int[40];
 
     public static void main(String[] args) {
         new ModelTest().all();
@@ -29,14 +35,14 @@ public final class ModelTest {
             random = new Random(1000 + run);
             x = new PatchChains();
             m = new Model();
-            log.clear();
+            calls = 0;
+            changes.clear();
             contents = someContents(run % 4);
-            for (int call = 0; call < CALLS && wrong == 0; call++) {
+            while (changes.size() < MOST_CHANGES && wrong == 0) {
                 act(run % 4);
-                if (call % 50 == 49) {
-                    compareAll();
-                }
             }
+            thin = run % 100 == 0 ? 1 : 20;
+            compareAll();
         }
         for (int rule = 1; rule <= 5; rule++) {
             check.due("rule " + rule + " was seen in apply", seen[rule] > 0, true);
@@ -81,33 +87,58 @@ public final class ModelTest {
         int at = random.nextInt(text.length() + 1);
         String head = text.substring(0, at);
         String tail = text.substring(at);
-        String result;
-        switch (random.nextInt(5)) {
-            case 0:
-                result = head + (char) random.nextInt(256) + tail;
-                break;
-            case 1:
-                result = tail + head;
-                break;
-            case 2:
-                result = head + tail.substring(Math.min(tail.length(), random.nextInt(6)));
-                break;
-            case 3:
-                result = head + letters(random.nextInt(6), 4) + tail;
-                break;
-            default:
-                result = text + head;
-        }
+        String result = switch (random.nextInt(5)) {
+            case 0 -> head + (char) random.nextInt(256) + tail;
+            case 1 -> tail + head;
+            case 2 -> head + tail.substring(Math.min(tail.length(), random.nextInt(6)));
+            case 3 -> head + letters(random.nextInt(6), 4) + tail;
+            default -> text + head;
+        };
         return result.substring(0, Math.min(48, result.length()));
     }
 
-    private void due(String call, int got, int want) {
-        log.add(call + " = " + want);
+    /** A call that may change something: it is made again on each new object. */
+    private int act(String name, int... a) {
+        Call call = new Call(name, a);
+        renew();
+        changes.add(call);
+        return compare(call);
+    }
+
+    /** A call that changes nothing. */
+    private void ask(String name, int... a) {
+        renew();
+        compare(new Call(name, a));
+    }
+
+    /** Of many such calls only some are made. */
+    private void askSome(String name, int... a) {
+        if (thin == 1 || random.nextInt(thin) == 0) {
+            ask(name, a);
+        }
+    }
+
+    private int compare(Call call) {
+        int want = call.on(m);
+        int got = call.on(x);
+        calls++;
         if (got != want) {
             wrong++;
-            System.out.println(String.join("\n", log));
+            System.out.println(changes);
         }
-        check.due(call, got, want);
+        check.due(call.toString(), got, want);
+        return want;
+    }
+
+    private void renew() {
+        if (calls < MOST_CALLS) {
+            return;
+        }
+        x = new PatchChains();
+        for (Call change : changes) {
+            change.on(x);
+        }
+        calls = changes.size();
     }
 
     private int anyTree() {
@@ -127,61 +158,58 @@ public final class ModelTest {
     private void feedText(String text) {
         for (int start = 0; start < text.length(); start += 20) {
             int n = Math.min(20, text.length() - start);
-            int[] v = new int[5];
+            int[] numbers = new int[5];
             for (int k = 0; k < 20; k++) {
-                v[k / 4] = v[k / 4] << 8 | (k < n ? text.charAt(start + k) : 0);
+                numbers[k / 4] = numbers[k / 4] << 8 | (k < n ? text.charAt(start + k) : 0);
             }
-            due("feed", x.feed(v[0], v[1], v[2], v[3], v[4]), m.feed(v[0], v[1], v[2], v[3], v[4]));
-            due("end(" + n + ")", x.end(n), m.end(n));
+            act("feed", numbers);
+            act("end", n);
         }
     }
 
     private void putSome(int t, int kinds) {
-        if (random.nextInt(30) > 0) {
-            due("path() to clear the tape", x.path(), m.path());
+        if (random.nextInt(30) > 0 && m.count(2) > 0) {
+            act("path");
         }
         feedText(PATHS[random.nextInt(kinds)]);
-        due("path()", x.path(), m.path());
+        act("path");
         if (random.nextInt(6) == 0) {
-            due("drop(" + t + ")", x.drop(t), m.drop(t));
+            act("drop", t);
         } else {
             feedText(contents[random.nextInt(contents.length)]);
-            due("put(" + t + ")", x.put(t), m.put(t));
+            act("put", t);
         }
     }
 
     /** Ten files below one name or another, so that chains come to have many steps. */
     private void fillTree() {
-        int t = m.tree(-1);
-        due("tree(-1)", x.tree(-1), t);
+        int t = act("tree", -1);
         String top = "" + (char) ('p' + random.nextInt(4));
+        if (m.count(2) > 0) {
+            act("path");
+        }
         for (int i = 0; i < 10 && t >= 0; i++) {
-            due("path() to clear the tape", x.path(), m.path());
             feedText(top + "/" + (char) ('a' + i));
-            due("path()", x.path(), m.path());
+            act("path");
             feedText(random.nextInt(3) == 0 ? contents[random.nextInt(contents.length)] : "");
-            due("put(" + t + ")", x.put(t), m.put(t));
+            act("put", t);
         }
     }
 
     private void act(int style) {
         int dice = random.nextInt(100);
         if (dice < 8) {
-            int t = random.nextInt(3) == 0 ? -1 : anyTree();
-            due("tree(" + t + ")", x.tree(t), m.tree(t));
+            act("tree", random.nextInt(3) == 0 ? -1 : anyTree());
         } else if (dice < 11 && style == 2) {
             fillTree();
         } else if (dice < 40) {
             putSome(anyTree(), style == 3 ? 4 : style == 0 ? 6 : style == 1 ? PATHS.length : 11);
         } else if (dice < 52) {
-            int a = anyTree();
-            int b = anyTree();
-            due("patch(" + a + ", " + b + ")", x.patch(a, b), m.patch(a, b));
+            act("patch", anyTree(), anyTree());
         } else if (dice < 64) {
             applySome();
         } else if (dice < 69) {
-            int p = anyPatch();
-            due("inverse(" + p + ")", x.inverse(p), m.inverse(p));
+            act("inverse", anyPatch());
         } else if (dice < 82) {
             chainSome();
         } else if (dice < 94) {
@@ -194,11 +222,7 @@ public final class ModelTest {
     }
 
     private void applySome() {
-        int p = anyPatch();
-        int t = anyTree();
-        boolean strictly = random.nextInt(3) == 0;
-        int want = m.apply(p, t, strictly);
-        due("apply(" + p + ", " + t + ", " + strictly + ")", x.apply(p, t, strictly), want);
+        int want = act("apply", anyPatch(), anyTree(), random.nextInt(3) == 0 ? 1 : 0);
         if (want <= -11) {
             seen[-10 - want]++;
         }
@@ -206,7 +230,7 @@ public final class ModelTest {
         seen[22] += conflicts;
         for (int i = -2; i <= conflicts; i++) {
             for (int what = -1; what <= 2; what++) {
-                due("conflict(" + i + ", " + what + ")", x.conflict(i, what), m.conflict(i, what));
+                ask("conflict", i, what);
             }
             if (m.conflict(i, 1) > 0) {
                 seen[m.conflict(i, 1)]++;
@@ -215,11 +239,8 @@ public final class ModelTest {
     }
 
     private void chainSome() {
-        int p = anyPatch();
-        int q = anyPatch();
         boolean room = m.count(1) < 8;
-        int want = m.chain(p, q);
-        due("chain(" + p + ", " + q + ")", x.chain(p, q), want);
+        int want = act("chain", anyPatch(), anyPatch());
         if (want <= -11) {
             seen[-want]++;
         }
@@ -227,6 +248,7 @@ public final class ModelTest {
             seen[20]++;
         }
         if (want >= 0) {
+            thin = 20;
             comparePatch(want);
             seen[21]++;
         }
@@ -234,23 +256,21 @@ public final class ModelTest {
 
     private void diskSome(int dice) {
         if (dice < 86) {
-            int n = random.nextInt(10) == 0 ? wild() : random.nextInt(14) - 1;
-            due("power(" + n + ")", x.power(n), m.power(n));
+            act("power", random.nextInt(10) == 0 ? wild() : random.nextInt(14) - 1);
         } else if (dice < 91) {
-            int t = anyTree();
-            int want = m.install(t);
-            due("install(" + t + ")", x.install(t), want);
-            if (want == Model.DOWN) {
+            if (act("install", anyTree()) == Model.DOWN) {
                 seen[23]++;
             }
         } else {
-            due("open()", x.open(), m.open());
+            act("open");
         }
     }
 
     private void clearSome() {
         if (random.nextInt(2) == 0) {
-            due("clear()", x.clear(), m.clear());
+            thin = 60;
+            compareAll();
+            act("clear");
         }
     }
 
@@ -260,28 +280,28 @@ public final class ModelTest {
         int c = wild();
         int d = wild();
         int e = wild();
-        due("feed wild", x.feed(a, b, c, d, e), m.feed(a, b, c, d, e));
-        due("end " + a, x.end(a), m.end(a));
-        due("file wild", x.file(a, b, c), m.file(a, b, c));
-        due("byteOf wild", x.byteOf(a, b, c, d), m.byteOf(a, b, c, d));
-        due("same wild", x.same(a, b), m.same(a, b));
-        due("step wild", x.step(a, b, c), m.step(a, b, c));
-        due("stepByte wild", x.stepByte(a, b, c, d), m.stepByte(a, b, c, d));
-        due("piece wild", x.piece(a, b, c, d, e), m.piece(a, b, c, d, e));
-        due("conflict wild", x.conflict(a, b), m.conflict(a, b));
-        due("slot wild", x.slot(a, b), m.slot(a, b));
-        due("count wild", x.count(a), m.count(a));
-        due("put wild", x.put(a), m.put(a));
-        due("drop wild", x.drop(b), m.drop(b));
+        act("feed", a, b, c, d, e);
+        act("end", a);
+        act("put", a);
+        act("drop", b);
+        ask("file", a, b, c);
+        ask("byteOf", a, b, c, d);
+        ask("same", a, b);
+        ask("step", a, b, c);
+        ask("stepByte", a, b, c, d);
+        ask("piece", a, b, c, d, e);
+        ask("conflict", a, b);
+        ask("slot", a, b);
+        ask("count", a);
     }
 
     private void compareAll() {
         for (int what = -1; what <= 8; what++) {
-            due("count(" + what + ")", x.count(what), m.count(what));
+            ask("count", what);
         }
         for (int i = -1; i <= 30; i++) {
             for (int what = -1; what <= 3; what++) {
-                due("slot(" + i + ", " + what + ")", x.slot(i, what), m.slot(i, what));
+                askSome("slot", i, what);
             }
         }
         for (int t = 0; t <= m.count(0); t++) {
@@ -295,36 +315,33 @@ public final class ModelTest {
     private void compareTree(int t) {
         for (int i = -1; i <= m.file(t, 0, 3); i++) {
             for (int what = -1; what <= 4; what++) {
-                due("file(" + t + ", " + i + ", " + what + ")", x.file(t, i, what), m.file(t, i, what));
+                askSome("file", t, i, what);
             }
             for (int side = -1; side <= 2; side++) {
                 int bytes = Math.max(0, m.file(t, i, 1 - (side & 1)));
                 for (int k = -1; k <= bytes; k++) {
-                    due("byteOf(" + t + ", " + i + ", " + side + ", " + k + ")", x.byteOf(t, i, side, k),
-                        m.byteOf(t, i, side, k));
+                    askSome("byteOf", t, i, side, k);
                 }
             }
         }
         for (int u = 0; u <= m.count(0); u++) {
-            due("same(" + t + ", " + u + ")", x.same(t, u), m.same(t, u));
+            askSome("same", t, u);
         }
     }
 
     private void comparePatch(int p) {
         for (int i = -1; i <= m.step(p, 0, 9); i++) {
             for (int what = -1; what <= 10; what++) {
-                due("step(" + p + ", " + i + ", " + what + ")", x.step(p, i, what), m.step(p, i, what));
+                askSome("step", p, i, what);
             }
             for (int side = -1; side <= 2; side++) {
                 for (int k = -1; k <= 17; k++) {
-                    due("stepByte(" + p + ", " + i + ", " + side + ", " + k + ")", x.stepByte(p, i, side, k),
-                        m.stepByte(p, i, side, k));
+                    askSome("stepByte", p, i, side, k);
                 }
                 int pieces = Math.max(0, m.step(p, i, 7 + (side & 1)));
                 for (int j = -1; j <= pieces; j++) {
                     for (int k = -3; k <= Math.max(0, m.piece(p, i, side, j, -2)); k++) {
-                        due("piece(" + p + ", " + i + ", " + side + ", " + j + ", " + k + ")",
-                            x.piece(p, i, side, j, k), m.piece(p, i, side, j, k));
+                        askSome("piece", p, i, side, j, k);
                     }
                 }
             }
