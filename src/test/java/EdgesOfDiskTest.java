@@ -91,6 +91,15 @@ public final class EdgesOfDiskTest {
             x.install(x.tree(-1));
             due("the other list has it", x.install(t), 3);
         });
+        check.edge("the LIST that counts .. has its PATH (not: had it)", x -> {
+            int both = Kit.tree(x, "a", "1", "b", "2");
+            int one = Kit.tree(x, "a", "1");
+            x.install(both);
+            x.install(one);
+            x.install(one);
+            due("b is written", x.install(both), 3);
+            due("it counts", x.same(x.open(), both), 1);
+        });
         check.edge("has its PATH (not another one) with a SLOT that has its CONTENT", x -> {
             x.install(Kit.tree(x, "a", "one"));
             due("the content under another path", x.install(Kit.tree(x, "b", "one")), 3);
@@ -141,6 +150,16 @@ public final class EdgesOfDiskTest {
             due("slot 19 does not", x.slot(19, 2), 0);
             due("slot 20 still", x.slot(20, 0), PatchChains.NONE);
             due("they count", x.same(x.open(), t), 1);
+        });
+        check.edge("the least one ..: ten FILES for ten with other PATHS", x -> {
+            x.install(tenFiles(x, ""));
+            int u = x.tree(-1);
+            for (int i = 0; i < 10; i++) {
+                Kit.put(x, u, "n/" + (char) ('a' + i), "");
+            }
+            due("ten", x.install(u), 12);
+            due("slot 19", x.slot(19, 2), 1);
+            due("they count", x.same(x.open(), u), 1);
         });
     }
 

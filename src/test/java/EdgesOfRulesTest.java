@@ -300,6 +300,13 @@ public final class EdgesOfRulesTest {
             due("target", x.step(back, 0, 3), 10);
             due("sum of that", x.step(back, 0, 4), Kit.sum(TEN));
         });
+        check.edge("INVERSE of 48 bytes", x -> {
+            String most = Kit.letters('0', 48);
+            int p = patch(x, tree("a", most), tree("a", "!"));
+            due("told", Kit.steps(x, x.inverse(p)), "CHANGE a<a ['" + most + "'] ['!']");
+            int q = patch(x, tree("a", most), tree("b", most));
+            due("copied", Kit.steps(x, x.inverse(q)), "MOVE a<b [0+48] [0+48]");
+        });
         check.edge("INVERSE of a PATCH without STEPS", x -> due("none", x.step(x.inverse(x.patch(x.tree(-1), 0)), 0, 9), 0));
     }
 
@@ -394,6 +401,16 @@ public final class EdgesOfRulesTest {
             due("the first", Kit.steps(x, x.chain(none, some)), "CHANGE a<a ['2'] ['1']");
             due("the second", Kit.steps(x, x.chain(some, none)), "CHANGE a<a ['2'] ['1']");
         });
+        check.edge("CHAIN of PATCHES without STEPS (of which nothing was left)", x -> {
+            int there = patch(x, tree("a", TEN), tree("a", TEN + "!"));
+            int nothing = x.chain(there, x.inverse(there));
+            due("nothing", x.step(nothing, 0, 9), 0);
+            int drop = patch(x, tree("a", "1"), tree());
+            due("no SOURCE, no TARGET is in the first", Kit.steps(x, x.chain(nothing, drop)), "DROP a<a [] ['1']");
+            due("nor in the second", Kit.steps(x, x.chain(drop, nothing)), "DROP a<a [] ['1']");
+            int add = patch(x, tree(), tree("a", "2"));
+            due("no TARGET", Kit.steps(x, x.chain(nothing, add)), "ADD a<a ['2'] []");
+        });
     }
 
     private static void chainsWithAddAndDrop() {
@@ -469,6 +486,8 @@ public final class EdgesOfRulesTest {
                 "CHANGE a<a [5+1 'XYZ'] ['abcde' 0+1]");
             due("not side by side", chainOf(tree("a", "abc-defgh"), tree("a", "defgh-abc"), tree("a", "gh-abc!!")),
                 "CHANGE a<a [7+2 '-' 0+3 '!!'] [3+3 '-def' 0+2]");
+            due("place 0 alone", chainOf(tree("a", "abcdef"), tree("a", "defabc"), tree("a", "efa!!")),
+                "CHANGE a<a [4+2 0+1 '!!'] [2+1 'bcd' 0+2]");
             due("the same bytes twice", chainOf(tree("a", "abc"), tree("a", "abc!"), tree("a", "abc!abc!")),
                 "CHANGE a<a [0+3 '!' 0+3 '!'] [0+3]");
         });
@@ -479,6 +498,14 @@ public final class EdgesOfRulesTest {
                 "CHANGE a<a ['XYZXYZ'] []");
             due("though X has them", chainOf(tree("a", "abcdef"), tree("a", "ab"), tree("a", "abcdef")),
                 "CHANGE a<a ['abcdef'] ['abcdef']");
+        });
+        check.edge("each byte of Z is told, or is a byte of X at a place, by both (byte 0, place 0)", x -> {
+            due("byte 0 told by the first", chainOf(tree("a", "abc"), tree("a", "\u0000abc"), tree("a", "\u0000abc?")),
+                "CHANGE a<a ['\u0000' 0+3 '?'] [1+3]");
+            due("by the second", chainOf(tree("a", "abc"), tree("a", "abc?"), tree("a", "\u0000abc?")),
+                "CHANGE a<a ['\u0000' 0+3 '?'] [1+3]");
+            due("by both", chainOf(tree("a", "abc"), tree("a", "abc\u0000"), tree("a", "abc\u0000\u0000")),
+                "CHANGE a<a [0+3 '\u0000\u0000'] [0+3]");
         });
         check.edge("DELTAS JOINED of 48 bytes", x -> {
             String most = Kit.letters('0', 48);

@@ -132,7 +132,7 @@ public final class EdgesOfTermsTest {
         });
         check.edge("up to a / (not up to any other byte)", ignored -> {
             String[][] both = {{"a", "ab"}, {"a", "ab/c"}, {"a/b", "a/bc"}, {"a/b", "a/bc/d"}, {"a/b", "ab"},
-                {"a/b", "a/c"}, {"b", "a/b"}, {"b/c", "a/b/c"}, {"a/b/c", "a/b/d"}, {"ab/c", "a/b"}};
+                {"abcde/fghij/klmno", "abcde/fghij/klmnp"}, {"a/b", "a/c"}, {"b", "a/b"}, {"b/c", "a/b/c"}, {"a/b/c", "a/b/d"}, {"ab/c", "a/b"}};
             for (String[] pair : both) {
                 PatchChains x = new PatchChains();
                 due(pair[1] + " beside " + pair[0], Kit.put(x, Kit.tree(x, pair[0], ""), pair[1], ""), 2);
@@ -206,6 +206,19 @@ public final class EdgesOfTermsTest {
             due("48", delta("", FORTY_EIGHT), "['" + FORTY_EIGHT + "']");
             due("on both sides of a copy", delta("abcdef", "12abcdef34"), "['12' 0+6 '34']");
             due("though X has some of them", delta("abcdef", "ab!ef"), "['ab!ef']");
+            due("byte 0 among them", delta("", "x\u0000y\u0000"), "['x\u0000y\u0000']");
+        });
+        check.edge("COPY: n bytes of X from a place on; or INSERT: n bytes that it tells", x -> {
+            due("byte 0 told ahead of place 0", delta("abcdef", "\u0000abcdef"), "['\u0000' 0+6]");
+            due("byte 255 told ahead of place 0", delta("abcdef", "\u00ffabcdef"), "['\u00ff' 0+6]");
+            due("byte 0 told behind a copy", delta("abcdef", "abcdef\u0000"), "[0+6 '\u0000']");
+            due("copied bytes 0", delta("\u0000\u0000\u0000!", "\u0000\u0000\u0000"), "[0+3]");
+        });
+        check.edge("at which X has these bytes (and no X that was asked before)", x -> {
+            int a = Kit.tree(x, "a", "XYZ", "b", "abc");
+            int b = Kit.tree(x, "a", "abcXYZ", "b", "cQRS");
+            due("a shorter X behind a longer one", Kit.steps(x, x.patch(a, b)),
+                "CHANGE a<a ['abc' 0+3] [3+3]; CHANGE b<b ['cQRS'] ['abc']");
         });
     }
 
@@ -288,6 +301,13 @@ public final class EdgesOfTermsTest {
             int q = x.chain(x.patch(b, c), x.patch(c, d));
             due("ADD and MOVE", Kit.steps(x, q), "MOVE a<b [0+10] [0+10]; ADD b<b ['x'] []");
             due("in an inverse", Kit.steps(x, x.inverse(q)), "DROP b<b [] ['x']; MOVE b<a [0+10] [0+10]");
+        });
+        check.edge("of one PATH the DROP first (also ahead of an ADD)", x -> {
+            int a = Kit.tree(x, "b", "0123456789");
+            int b = Kit.tree(x, "a", "0123456789");
+            int p = x.chain(x.patch(a, b), x.patch(b, Kit.tree(x, "b", "one")));
+            due("there", Kit.steps(x, p), "DROP b<b [] ['0123456789']; ADD b<b ['one'] []");
+            due("and back", Kit.steps(x, x.inverse(p)), "DROP b<b [] ['one']; ADD b<b ['0123456789'] []");
         });
     }
 

@@ -191,6 +191,12 @@ public final class EdgesOfTreesTest {
             due("the first alone", Kit.files(x, 0), "a=1 c/d=" + FORTY_EIGHT);
             due("the copy alone", Kit.files(x, 1), "a=2 b= c/d=" + FORTY_EIGHT);
         });
+        check.edge("5: .. a copy of TREE t (of ten FILES)", x -> {
+            int t = tenFiles(x);
+            due("number", x.tree(t), 1);
+            due("all ten", x.same(0, 1), 1);
+            due("a copy of none", x.same(x.tree(x.tree(-1)), 2), 1);
+        });
         check.edge("5: BAD: none such", x -> {
             check.bad("none is there", x.tree(0));
             x.tree(-1);
@@ -335,6 +341,18 @@ public final class EdgesOfTreesTest {
             due("down to none", Kit.drop(x, Kit.tree(x, "a", ""), "a"), 0);
             due("the path is at hand still", x.count(3), 1);
         });
+        check.edge("7: The FILE .. goes (and another one comes)", x -> {
+            int t = Kit.tree(x, "a", "1", "b", "2", "c", "3");
+            Kit.drop(x, t, "a");
+            due("in its row", Kit.put(x, t, "d", "4"), 3);
+            due("the others stay", Kit.files(x, t), "b=2 c=3 d=4");
+            Kit.drop(x, t, "c");
+            Kit.put(x, t, "a", "5");
+            due("those too", Kit.files(x, t), "a=5 b=2 d=4");
+            Kit.drop(x, t, "d");
+            Kit.put(x, t, "aa", "");
+            due("and these", Kit.files(x, t), "a=5 aa= b=2");
+        });
         check.edge("7: (the TAPE is not asked)", x -> {
             int t = Kit.tree(x, "a", "1");
             Kit.feed(x, FORTY_EIGHT + "!");
@@ -452,6 +470,30 @@ public final class EdgesOfTreesTest {
         });
     }
 
+    /** Trees and patches of each kind; the longer the contents, the more there is left of them inside. */
+    private static void useAll(PatchChains x, String one, String two) {
+        int a = Kit.tree(x, "a", one, "b", two, "c", one);
+        int b = Kit.tree(x, "a", two, "d", two, "e", two + "?");
+        int p = x.patch(a, b);
+        x.chain(p, x.inverse(p));
+        x.patch(b, b);
+        x.install(x.apply(p, a, true));
+        x.open();
+        x.tree(a);
+        x.tree(-1);
+    }
+
+    private static String told(PatchChains x) {
+        StringBuilder told = new StringBuilder();
+        for (int p = 0; p < x.count(1); p++) {
+            told.append(Kit.steps(x, p)).append(" | ");
+        }
+        for (int t = 0; t < x.count(0); t++) {
+            told.append(Kit.files(x, t)).append(" | ");
+        }
+        return told.toString();
+    }
+
     private static void clear() {
         check.edge("11: how many TREES there were", x -> {
             due("none", x.clear(), 0);
@@ -476,6 +518,16 @@ public final class EdgesOfTreesTest {
             due("a new tree", x.tree(-1), 0);
             due("without files", x.file(0, 0, 3), 0);
             due("a new patch", x.patch(0, 0), 0);
+        });
+        check.edge("11: All TREES and PATCHES go (nothing of them comes back)", x -> {
+            useAll(x, Kit.letters('A', 40), "!" + Kit.letters('A', 40));
+            x.clear();
+            useAll(x, "abc", "abcd");
+            PatchChains anew = new PatchChains();
+            useAll(anew, "abc", "abcd");
+            due("trees", x.count(0), 6);
+            due("patches", x.count(1), 4);
+            due("as on a new object", told(x), told(anew));
         });
         check.edge("11: (THE DISK stays)", x -> {
             int t = Kit.tree(x, "a", "1", "b", "2");

@@ -116,7 +116,7 @@ final class Kit {
         return String.join(" ", conflicts);
     }
 
-    /** Files, steps and counts of the whole object, to tell whether a call has changed any of them. */
+    /** Counts, files, steps, conflicts and slots of the whole object, to tell whether a call has changed any of them. */
     static String state(PatchChains x) {
         StringBuilder state = new StringBuilder();
         for (int what = 0; what <= 7; what++) {
@@ -128,7 +128,7 @@ final class Kit {
         for (int p = 0; p < x.count(1); p++) {
             state.append("[").append(steps(x, p)).append("] ");
         }
-        return state.append(conflicts(x)).toString();
+        return state.append(conflicts(x)).append(" / ").append(slots(x)).toString();
     }
 
     /** The slots that were ever written, as number:sum, with a * if they are in the list that counts. */
