@@ -470,7 +470,18 @@ public final class EdgesOfTreesTest {
         });
     }
 
-    /** Trees and patches of each kind; the longer the contents, the more there is left of them inside. */
+    /** All rows for trees and patches are full of what must not be seen again. */
+    private static void fillAll(PatchChains x) {
+        int a = Kit.tree(x, "x/x", FORTY_EIGHT, "y/y", "!" + FORTY_EIGHT.substring(1), "z", "z");
+        int b = Kit.tree(x, "x/x", FORTY_EIGHT.substring(9), "v", "", "w", "z");
+        for (int p = 0; p < 8; p++) {
+            x.patch(a, b);
+        }
+        while (x.count(0) < 12) {
+            x.tree(a);
+        }
+    }
+
     private static void useAll(PatchChains x, String one, String two) {
         int a = Kit.tree(x, "a", one, "b", two, "c", one);
         int b = Kit.tree(x, "a", two, "d", two, "e", two + "?");
@@ -520,7 +531,7 @@ public final class EdgesOfTreesTest {
             due("a new patch", x.patch(0, 0), 0);
         });
         check.edge("11: All TREES and PATCHES go (nothing of them comes back)", x -> {
-            useAll(x, Kit.letters('A', 40), "!" + Kit.letters('A', 40));
+            fillAll(x);
             x.clear();
             useAll(x, "abc", "abcd");
             PatchChains anew = new PatchChains();

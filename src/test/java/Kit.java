@@ -46,7 +46,7 @@ final class Kit {
 
     static String content(PatchChains x, int t, int i) {
         StringBuilder text = new StringBuilder();
-        for (int k = 0; k < x.file(t, i, 1); k++) {
+        for (int k = 0, n = x.file(t, i, 1); k < n; k++) {
             text.append((char) x.byteOf(t, i, 0, k));
         }
         return text.toString();
@@ -55,9 +55,9 @@ final class Kit {
     /** The files as path=content, with a space between. */
     static String files(PatchChains x, int t) {
         List<String> files = new ArrayList<>();
-        for (int i = 0; i < x.file(t, 0, 3); i++) {
+        for (int i = 0, n = x.file(t, 0, 3); i < n; i++) {
             StringBuilder path = new StringBuilder();
-            for (int k = 0; k < x.file(t, i, 0); k++) {
+            for (int k = 0, bytes = x.file(t, i, 0); k < bytes; k++) {
                 path.append((char) x.byteOf(t, i, 1, k));
             }
             files.add(path + "=" + content(x, t, i));
@@ -68,7 +68,7 @@ final class Kit {
     /** Copies as place+length, what is told between quotes. */
     static String delta(PatchChains x, int p, int i, int side) {
         List<String> pieces = new ArrayList<>();
-        for (int j = 0; j < x.step(p, i, 7 + side); j++) {
+        for (int j = 0, all = x.step(p, i, 7 + side); j < all; j++) {
             int place = x.piece(p, i, side, j, -1);
             int n = x.piece(p, i, side, j, -2);
             if (place >= 0) {
@@ -86,7 +86,7 @@ final class Kit {
 
     static String stepPath(PatchChains x, int p, int i, int side) {
         StringBuilder path = new StringBuilder();
-        for (int k = 0; k < x.step(p, i, 5 + side); k++) {
+        for (int k = 0, n = x.step(p, i, 5 + side); k < n; k++) {
             path.append((char) x.stepByte(p, i, side, k));
         }
         return path.toString();
@@ -101,7 +101,7 @@ final class Kit {
 
     static String steps(PatchChains x, int p) {
         List<String> steps = new ArrayList<>();
-        for (int i = 0; i < x.step(p, 0, 9); i++) {
+        for (int i = 0, n = x.step(p, 0, 9); i < n; i++) {
             steps.add(step(x, p, i));
         }
         return String.join("; ", steps);
@@ -110,7 +110,7 @@ final class Kit {
     /** Conflicts as step:rule. */
     static String conflicts(PatchChains x) {
         List<String> conflicts = new ArrayList<>();
-        for (int i = 0; i < x.conflict(-1, 0); i++) {
+        for (int i = 0, n = x.conflict(-1, 0); i < n; i++) {
             conflicts.add(x.conflict(i, 0) + ":" + x.conflict(i, 1));
         }
         return String.join(" ", conflicts);
@@ -122,10 +122,10 @@ final class Kit {
         for (int what = 0; what <= 7; what++) {
             state.append(x.count(what)).append(' ');
         }
-        for (int t = 0; t < x.count(0); t++) {
+        for (int t = 0, n = x.count(0); t < n; t++) {
             state.append("{").append(files(x, t)).append("} ");
         }
-        for (int p = 0; p < x.count(1); p++) {
+        for (int p = 0, n = x.count(1); p < n; p++) {
             state.append("[").append(steps(x, p)).append("] ");
         }
         return state.append(conflicts(x)).append(" / ").append(slots(x)).toString();
